@@ -53,10 +53,10 @@ final class Check {
     }
 
     static void put(BingoHall x, int slot, long... row) {
-        put(x, slot, 3, row);
+        putCut(x, slot, 3, row);
     }
 
-    static void put(BingoHall x, int slot, int width, long... row) {
+    static void putCut(BingoHall x, int slot, int width, long... row) {
         x.row(slot, width, row.length);
         for (int i = 0; i < row.length; i++) {
             x.write(slot, i, row[i]);

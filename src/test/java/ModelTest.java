@@ -349,7 +349,7 @@ public final class ModelTest {
     }
 
     private static void shapesOfSold(BingoHall x, Model m, List<int[][][]> strips, int[] calls, List<Long> places) {
-        Check.put(x, 0, 0, places.stream().mapToLong(Long::longValue).toArray());
+        Check.putCut(x, 0, 0, places.stream().mapToLong(Long::longValue).toArray());
         int first = Integer.MAX_VALUE;
         int winner = -1;
         for (int place = 0; place < strips.size(); place++) {
