@@ -370,24 +370,35 @@ public final class BingoHall {
     }
 
     public int wins(int i) {
-        return isPlace(i) ? winsOf(i) : MISSING;
-    }
-
-    private int winsOf(int place) {
+        if (!isPlace(i)) {
+            return MISSING;
+        }
         int sum = 0;
         for (int kind = 0; kind < KINDS; kind++) {
             int turn = firstTurn(kind, now.turns);
-            int part = partOf(now.prizes[kind], winnersAt(kind, turn, now.turns));
-            if (kind == HOUSE) {
-                part += jackpotPart(turn);
-            }
+            int part = winnerPart(kind, turn);
             for (int card = 0; card < now.form.cards; card++) {
-                if (hasFirst(place, card, kind, turn)) {
+                if (hasFirst(i, card, kind, turn)) {
                     sum += part;
                 }
             }
         }
         return sum;
+    }
+
+    private long wonInAll() {
+        long sum = 0;
+        for (int kind = 0; kind < KINDS; kind++) {
+            int turn = firstTurn(kind, now.turns);
+            sum += (long) winnerPart(kind, turn) * winnersAt(kind, turn, now.turns);
+        }
+        return sum;
+    }
+
+    /** What each CARD that has a KIND first, at a turn, wins by it. */
+    private int winnerPart(int kind, int turn) {
+        int part = partOf(now.prizes[kind], winnersAt(kind, turn, now.turns));
+        return kind == HOUSE ? part + jackpotPart(turn) : part;
     }
 
     /** What each CARD that has the first house, at a turn, has of the JACKPOT. */
@@ -647,10 +658,7 @@ public final class BingoHall {
         if (i < 0 || i >= slots.lengthOf(slot)) {
             return NONE;
         }
-        long won = 0;
-        for (int place = 0; place < now.soldCount; place++) {
-            won += winsOf(place);
-        }
+        long won = wonInAll();
         long left = won;
         for (int buyer = 0; buyer < slots.lengthOf(slot); buyer++) {
             left -= won * slots.valueAt(slot, buyer) / paid;
@@ -1116,6 +1124,8 @@ public final class BingoHall {
         private int packedSizes = 0;
         private int plans = 0;
         private final Parts mixes = new Parts();
+        /** How many PLANS begin with each mix. */
+        private final int[] plansBehind = new int[Parts.MOST];
         private final Parts sets = new Parts();
 
         private void clear() {
@@ -1145,7 +1155,25 @@ public final class BingoHall {
             }
             mixes.beMixes(columns, rows, each);
             sets.beSets(columns, each);
-            plans = Parts.waysOf(mixes, cards, packedSizes);
+            plans = 0;
+            for (int i = 0; i < mixes.many; i++) {
+                int rest = packedSizes - mixes.parts[i];
+                plansBehind[i] = Parts.canTake(packedSizes, mixes.parts[i]) ? Parts.waysOf(mixes, cards - 1, rest) : 0;
+                plans += plansBehind[i];
+            }
+        }
+
+        /** Puts a PLAN, a mix for each CARD, to a row. */
+        private void putPlan(int index, int[] row) {
+            int ahead = index;
+            for (int i = 0; i < mixes.many; i++) {
+                if (ahead < plansBehind[i] && row.length > 0) {
+                    row[0] = mixes.parts[i];
+                    mixes.pick(cards - 1, packedSizes - mixes.parts[i], ahead, row, 1);
+                    return;
+                }
+                ahead -= plansBehind[i];
+            }
         }
 
         private boolean isAsSaid() {
@@ -1184,13 +1212,13 @@ public final class BingoHall {
         }
 
         private int planned(Form form, int i, int card, int column) {
-            form.mixes.pick(form.cards, form.packedSizes, i, plan, 0);
+            form.putPlan(i, plan);
             return card < 0 || card >= MOST_CARDS ? 0 : Parts.digit(plan[card], column);
         }
 
         private void deal(Form form, int serial, int[] strip) {
             Arrays.fill(strip, 0);
-            form.mixes.pick(form.cards, form.packedSizes, drawnPlan(form, serial), plan, 0);
+            form.putPlan(drawnPlan(form, serial), plan);
             for (int card = 0; card < form.cards; card++) {
                 int ways = Parts.waysOf(form.sets, form.rows, plan[card]);
                 form.sets.pick(form.rows, plan[card], draws.below(ways), layouts, card * form.rows);
