@@ -85,11 +85,16 @@ public final class BingoHall {
     }
 
     public int hall() {
-        boolean isGood = reader.readHall(next);
+        reader.begin(next);
+        for (int i = 0; i < MOST_BYTES && reader.hasLine(); i++) {
+            reader.readLine(next);
+        }
         reader.tapeLength = 0;
-        if (!isGood) {
+        if (reader.fault != 0) {
             return FAULTY;
         }
+        dealer.mixCalls(next.form, reader.seed, next.calls);
+        next.noteTurns();
         Hall old = now;
         now = next;
         next = old;
@@ -1472,23 +1477,17 @@ public final class BingoHall {
             }
         }
 
-        private boolean readHall(Hall hall) {
+        private void begin(Hall hall) {
             hall.clear();
             at = 0;
             seed = 1;
             fault = 0;
             spot = NONE;
             takeToken();
-            for (int i = 0; i < MOST_BYTES && token != END && fault == 0; i++) {
-                readLine(hall);
-                takeSign();
-                hall.lines++;
-            }
-            if (fault == 0) {
-                dealer.mixCalls(hall.form, seed, hall.calls);
-                hall.noteTurns();
-            }
-            return fault == 0;
+        }
+
+        private boolean hasLine() {
+            return token != END && fault == 0;
         }
 
         private void readLine(Hall hall) {
@@ -1506,6 +1505,8 @@ public final class BingoHall {
                 takeWord("caller");
                 seed = takeNumber(0, LAST_TOLD_SEED);
             }
+            takeSign();
+            hall.lines++;
         }
 
         private void readForm(Form form) {

@@ -857,6 +857,9 @@ public final class PromisesTest {
         due("43 no buyer", x.share(0, MAX), -1);
         Check.put(x, 0, 9999);
         due("43 alone", x.share(0, 0), 2104);
+        Check.put(x, 0, 1);
+        due("43 alone, by one", x.share(0, 0), 2104);
+        due("43 alone, no second", x.share(0, 1), -1);
         Check.put(x, 0, 1, 9999, 1, 1, 1, 1, 1, 1);
         due("43 eight, first", x.share(0, 0), 2);
         due("43 eight, second", x.share(0, 1), 2102);
@@ -1045,6 +1048,13 @@ public final class PromisesTest {
         due("50 no hall ahead of nothing", new BingoHall().judge(0), -2);
         Check.putCut(x, 1, 0, 4 + 256, 1, 6);
         due("50 cut to a byte", x.judge(1), 3);
+        BingoHall y = Check.hall(LARGEST);
+        y.row(0, 0, 60);
+        for (int i = 0; i < 45; i++) {
+            due("50 the 45 so far " + i, y.judge(0), i);
+            y.write(0, i, y.call(i));
+        }
+        due("50 more than 45", y.judge(0), 45);
     }
 
     private static void promise51() {
@@ -1124,6 +1134,25 @@ public final class PromisesTest {
         due("53 no HALL", y.numbers(), -2);
         due("53 no HALL", y.count(0), 0);
         due("53 no HALL", y.count(5), 0);
+        imageOfLargest();
+    }
+
+    private static void imageOfLargest() {
+        BingoHall x = Check.hall(LARGEST + "sold 9; sold 10;");
+        int[] turns = new int[46];
+        for (int number = 1; number <= 45; number++) {
+            turns[number] = x.called(number);
+        }
+        int last = x.first(2);
+        x.keep(0);
+        Check.read(x, TWO);
+        x.back(0);
+        for (int number = 1; number <= 45; number++) {
+            due("53 called " + number, x.called(number), turns[number]);
+            due("53 call " + number, x.call(turns[number] - 1), number);
+        }
+        due("53 house", x.first(2), last);
+        due("53 sold", x.sold(1), 10);
     }
 
     private static void imageOfEight(BingoHall x) {

@@ -63,6 +63,8 @@ public final class TapeTest {
         badAt(1, "", "foo");
         badAt(1, "", "halls cards 1");
         badAt(1, "", "hal");
+        badAt(1, "", "tall cards 1 rows 1 each 2 columns 1 1;");
+        badAt(1, "hall ", "wards 1 rows 1");
         badAt(1, "", "5");
         badAt(1, "", ";");
         badAt(1, "", ";" + HALL);
@@ -144,6 +146,8 @@ public final class TapeTest {
         badAt(1, HALL, "7");
         badAt(1, HALL, "rows 1;");
         badAt(1, HALL, "callers 1;");
+        badAt(1, HALL, "gold 1;");
+        badAt(1, HALL, "taller 1;");
         badAt(1, HALL + "caller ", ";");
         badAt(1, HALL + "caller ", "caller 1;");
         badAt(1, HALL + "caller", "");
@@ -180,6 +184,8 @@ public final class TapeTest {
     private static void soldLines() {
         badAt(1, HALL + "sold ", ";");
         badAt(1, HALL + "sold", "");
+        badAt(1, HALL + "sold 0; sold ", ";");
+        badAt(1, HALL + "sold 0; sold ", "sold 1;");
         badAt(2, HALL + "sold ", "10000;");
         badAt(2, HALL + "sold ", "10000");
         // Each STRIP of HALL is 1 2.
